@@ -201,6 +201,9 @@ public final class PromisesTest {
         faultDue("a=0256;", 2, 1);
         faultDue("a=1b;", 2, 1);
         faultDue("whiles a=1{}", 0, 1);
+        faultDue("a=1;endz;", 4, 1);
+        faultDue("enda;", 0, 1);
+        faultDue("end0;", 0, 1);
         faultDue("proc t{}", 5, 1);
         faultDue("proc pq{}", 5, 1);
         faultDue("proc p;", 6, 1);
@@ -267,6 +270,12 @@ public final class PromisesTest {
         faultDue("a=" + Bench.times("(", 10) + "cell[", 16, 3);
         faultDue("a=" + Bench.times("(", 10) + "{", 12, 1);
         programDue(Bench.times("if a=1{", 10) + Bench.times("}", 10), 10, 0);
+        programDue("a=" + Bench.times("cell[", 10) + "b" + Bench.times("]", 10) + ";", 1, 0);
+        faultDue("a=" + Bench.times("cell[", 11) + "b", 56, 3);
+        programDue(Bench.times("cell[", 10) + "b" + Bench.times("]", 10) + "=1;", 1, 0);
+        faultDue(Bench.times("cell[", 11) + "b", 54, 3);
+        faultDue("cell[(cell[((((((((1))))))))])]=1;", 18, 3);
+        programDue("cell[(cell[(((((((1)))))))])]=1;", 1, 0);
         faultDue(Bench.times("if a=1{", 10) + "if a=1{", 76, 3);
         faultDue(Bench.times("if a=1{", 10) + "if a=(1", 75, 3);
         faultDue(Bench.times("if a=1{", 10) + "cell[", 74, 3);
@@ -506,6 +515,13 @@ public final class PromisesTest {
         for (int[] d : due) {
             b.due("may(" + d[0] + ", " + d[1] + ", " + d[2] + ")", x.may(d[0], d[1], d[2]), d[3]);
         }
+        // Nothing is left of an earlier walk.
+        Bench.program(x, 1, "let a=1;end;");
+        x.walk(1, 1);
+        b.due("one number", x.may(0, 0, 0), 1);
+        b.due("one number", x.may(1, 0, 2), 1);
+        b.due("one number", x.may(0, 1, 0), 1);
+        b.due("STEP of the earlier one", x.may(4, 0, 0), -1);
         x = with("b=a;end;", 6, 1, 0);
         x.walk(0, 1);
         b.due("64 numbers", x.may(1, 1, 0), 64);
@@ -595,6 +611,15 @@ public final class PromisesTest {
         x = with("let a#a;");
         x.walk(0, 5);
         b.due("nothing to cover", x.cover(), 0);
+        x = with("let a=3;");
+        x.walk(0, 5);
+        b.due("one", x.cover(), 1);
+        b.due("that does not end by 4", x.coverAt(0), 3);
+        x = with("if a<2{let a=9;}if a=5{b=1;}else{b=2;}");
+        x.walk(0, 5);
+        b.due("two", x.cover(), 2);
+        b.due("the lesser", x.coverAt(0), 1);
+        b.due("the other", x.coverAt(1), 5);
         // Of several pairs the first ROW counts most.
         x = with("if a#0{if a#7{if a<4{b=1;}else{b=2;}}}");
         x.walk(0, 5);
@@ -1104,6 +1129,13 @@ public final class PromisesTest {
         Bench.program(x, 0, "h=20-3*4-1+7/2/2*3;");
         x.run(0, 0, 1);
         b.due("from the left: 4-12-1+3 by 16", x.got(7), 10);
+        Bench.program(x, 0, "proc p{b=b+1;}proc q{call p;b=b+2;}proc r{call q;b=b+4;}proc s{call r;b=b+8;}"
+                + "call s;call p;c=1;");
+        b.due("PROCS that call PROCS", x.run(0, 0, 1), 0);
+        b.due("16 by 16", x.got(1), 0);
+        b.due("goes on behind them", x.got(2), 1);
+        x.walk(0, 1);
+        b.due("STEPS", Bench.way(x, 0, 5), 11);
         b.close("promise 32: run");
     }
 
