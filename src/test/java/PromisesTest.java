@@ -1,6 +1,5 @@
 /** A test for each promise of the document: ordinary inputs, the edges that it names, wrong inputs. */
 public final class PromisesTest {
-    private static final int THROWS = 1000000;
     private static final Bench b = new Bench();
 
     public static void main(String[] args) {
@@ -46,34 +45,6 @@ public final class PromisesTest {
         b.finish();
     }
 
-    private static AllWays with(String text) {
-        AllWays x = new AllWays();
-        int told = Bench.program(x, 0, text);
-        if (told < 0) {
-            throw new IllegalStateException("program told " + told + ": " + text);
-        }
-        return x;
-    }
-
-    private static AllWays with(String text, int bits, int letters, int answers) {
-        AllWays x = with(text);
-        if (!x.sizes(bits, letters, answers)) {
-            throw new IllegalStateException("sizes");
-        }
-        return x;
-    }
-
-    private static void programDue(String text, int told, int fault) {
-        AllWays x = new AllWays();
-        b.due("program of " + text, Bench.program(x, 0, text), told);
-        b.due("fault of " + text, x.fault(), fault);
-        b.due("tape behind it", x.count(3), 0);
-    }
-
-    private static void faultDue(String text, int place, int fault) {
-        programDue(text, -1 - place, fault);
-    }
-
     private static void promise1NewObject() {
         AllWays x = new AllWays();
         b.due("tape", x.count(3), 0);
@@ -81,7 +52,7 @@ public final class PromisesTest {
         b.due("L", x.count(1), 1);
         b.due("O", x.count(2), 0);
         b.due("NONE", AllWays.NONE, -1);
-        b.due("nothing walked: way", Bench.way(x, 0, 0), THROWS);
+        b.due("nothing walked: way", Bench.way(x, 0, 0), Bench.THROWS);
         b.due("nothing walked: went", x.went(0, 0), -1);
         b.due("nothing walked: along", x.along(0), -1);
         b.due("nothing walked: least", x.least(0, -1), -1);
@@ -155,19 +126,19 @@ public final class PromisesTest {
     }
 
     private static void promise4Program() {
-        programDue("", 0, 0);
-        programDue(" \n ", 0, 0);
-        programDue("a=1;", 1, 0);
-        programDue("a = 1 ;\nb=a+ 2*3/(4-c) ; ", 2, 0);
-        programDue("cell[a+cell[1]]=cell[b];", 1, 0);
-        programDue("if a=1{}", 1, 0);
-        programDue("if a=1{b=1;}else{c=1;d=1;}", 4, 0);
-        programDue("while a<3 and b#1 or c>2{a=a+1;}", 2, 0);
-        programDue("must a=1;let a=1;ask b;end;", 4, 0);
-        programDue("procp{}", -1, 1);
-        programDue("proc p{}proc q{call p;}proc r{call p;call q;}proc s{call r;}call s;", 5, 0);
-        programDue("a=255;b=007;c=0;", 3, 0);
-        AllWays x = with("h=3;");
+        b.programDue("", 0, 0);
+        b.programDue(" \n ", 0, 0);
+        b.programDue("a=1;", 1, 0);
+        b.programDue("a = 1 ;\nb=a+ 2*3/(4-c) ; ", 2, 0);
+        b.programDue("cell[a+cell[1]]=cell[b];", 1, 0);
+        b.programDue("if a=1{}", 1, 0);
+        b.programDue("if a=1{b=1;}else{c=1;d=1;}", 4, 0);
+        b.programDue("while a<3 and b#1 or c>2{a=a+1;}", 2, 0);
+        b.programDue("must a=1;let a=1;ask b;end;", 4, 0);
+        b.programDue("procp{}", -1, 1);
+        b.programDue("proc p{}proc q{call p;}proc r{call p;call q;}proc s{call r;}call s;", 5, 0);
+        b.programDue("a=255;b=007;c=0;", 3, 0);
+        AllWays x = Bench.with("h=3;");
         b.due("no such k", Bench.program(x, 4, "a=1;"), -1000);
         b.due("the tape is empty then", x.count(3), 0);
         b.due("no such k", Bench.program(x, -1, "a=1;"), -1000);
@@ -189,120 +160,120 @@ public final class PromisesTest {
     }
 
     private static void promise4Faults() {
-        faultDue("A", 0, 1);
-        faultDue("a=1;\t", 4, 1);
-        faultDue("a", 1, 1);
-        faultDue("a=1 ", 4, 1);
-        faultDue("ab=1;", 0, 1);
-        faultDue("a1=1;", 0, 1);
-        faultDue("i=1;", 0, 1);
-        faultDue("p=1;", 0, 1);
-        faultDue("a=p;", 2, 1);
-        faultDue("a=0256;", 2, 1);
-        faultDue("a=1b;", 2, 1);
-        faultDue("whiles a=1{}", 0, 1);
-        faultDue("a=1;endz;", 4, 1);
-        faultDue("enda;", 0, 1);
-        faultDue("end0;", 0, 1);
-        faultDue("proc t{}", 5, 1);
-        faultDue("proc pq{}", 5, 1);
-        faultDue("proc p;", 6, 1);
-        faultDue("proc p{", 7, 1);
-        faultDue("proc p{}}", 8, 1);
-        faultDue("a=1;proc p{}", 4, 1);
-        faultDue("call t;", 5, 1);
-        faultDue("call p", 5, 4);
-        faultDue("proc p{}call p{", 14, 1);
-        faultDue("must a;", 6, 1);
-        faultDue("must a=1<2;", 8, 1);
-        faultDue("must (a=1);", 7, 1);
-        faultDue("must a=1 and;", 12, 1);
-        faultDue("must a=1 or;", 11, 1);
-        faultDue("let a=1{}", 7, 1);
-        faultDue("if a=1;", 6, 1);
-        faultDue("if a=1{};", 8, 1);
-        faultDue("if a=1{}else if", 13, 1);
-        faultDue("else{}", 0, 1);
-        faultDue("while a=1{}else{}", 11, 1);
-        faultDue("a==1;", 2, 1);
-        faultDue("a=-1;", 2, 1);
-        faultDue("a=1+;", 4, 1);
-        faultDue("a=(1];", 4, 1);
-        faultDue("a=cell(1);", 6, 1);
-        faultDue("cell[1)=1;", 6, 1);
-        faultDue("ask cell[1];", 4, 1);
-        faultDue("ask ab;", 4, 1);
-        faultDue("end", 3, 1);
-        faultDue(";", 0, 1);
-        faultDue("{}", 0, 1);
-        faultDue("1=a;", 0, 1);
-        faultDue("a=256;", 2, 2);
-        faultDue("a=999", 2, 2);
-        faultDue("256", 0, 1);
-        faultDue("a=b 256;", 4, 1);
-        faultDue("proc p{}proc p{}", 13, 4);
-        faultDue("proc p{call p;}", 12, 4);
-        faultDue("proc p{call q;}proc q{}", 12, 4);
-        faultDue("proc q{}call p;", 13, 4);
-        faultDue("a=256;A", 2, 2);
-        faultDue("a=1 A;b=256;", 4, 1);
+        b.faultDue("A", 0, 1);
+        b.faultDue("a=1;\t", 4, 1);
+        b.faultDue("a", 1, 1);
+        b.faultDue("a=1 ", 4, 1);
+        b.faultDue("ab=1;", 0, 1);
+        b.faultDue("a1=1;", 0, 1);
+        b.faultDue("i=1;", 0, 1);
+        b.faultDue("p=1;", 0, 1);
+        b.faultDue("a=p;", 2, 1);
+        b.faultDue("a=0256;", 2, 1);
+        b.faultDue("a=1b;", 2, 1);
+        b.faultDue("whiles a=1{}", 0, 1);
+        b.faultDue("a=1;endz;", 4, 1);
+        b.faultDue("enda;", 0, 1);
+        b.faultDue("end0;", 0, 1);
+        b.faultDue("proc t{}", 5, 1);
+        b.faultDue("proc pq{}", 5, 1);
+        b.faultDue("proc p;", 6, 1);
+        b.faultDue("proc p{", 7, 1);
+        b.faultDue("proc p{}}", 8, 1);
+        b.faultDue("a=1;proc p{}", 4, 1);
+        b.faultDue("call t;", 5, 1);
+        b.faultDue("call p", 5, 4);
+        b.faultDue("proc p{}call p{", 14, 1);
+        b.faultDue("must a;", 6, 1);
+        b.faultDue("must a=1<2;", 8, 1);
+        b.faultDue("must (a=1);", 7, 1);
+        b.faultDue("must a=1 and;", 12, 1);
+        b.faultDue("must a=1 or;", 11, 1);
+        b.faultDue("let a=1{}", 7, 1);
+        b.faultDue("if a=1;", 6, 1);
+        b.faultDue("if a=1{};", 8, 1);
+        b.faultDue("if a=1{}else if", 13, 1);
+        b.faultDue("else{}", 0, 1);
+        b.faultDue("while a=1{}else{}", 11, 1);
+        b.faultDue("a==1;", 2, 1);
+        b.faultDue("a=-1;", 2, 1);
+        b.faultDue("a=1+;", 4, 1);
+        b.faultDue("a=(1];", 4, 1);
+        b.faultDue("a=cell(1);", 6, 1);
+        b.faultDue("cell[1)=1;", 6, 1);
+        b.faultDue("ask cell[1];", 4, 1);
+        b.faultDue("ask ab;", 4, 1);
+        b.faultDue("end", 3, 1);
+        b.faultDue(";", 0, 1);
+        b.faultDue("{}", 0, 1);
+        b.faultDue("1=a;", 0, 1);
+        b.faultDue("a=256;", 2, 2);
+        b.faultDue("a=999", 2, 2);
+        b.faultDue("256", 0, 1);
+        b.faultDue("a=b 256;", 4, 1);
+        b.faultDue("proc p{}proc p{}", 13, 4);
+        b.faultDue("proc p{call p;}", 12, 4);
+        b.faultDue("proc p{call q;}proc q{}", 12, 4);
+        b.faultDue("proc q{}call p;", 13, 4);
+        b.faultDue("a=256;A", 2, 2);
+        b.faultDue("a=1 A;b=256;", 4, 1);
         b.close("promise 4: FAULTS 1, 2, 4 and their places");
     }
 
     private static void promise4Limits() {
-        programDue(Bench.times("end;", 60), 60, 0);
-        faultDue(Bench.times("end;", 60) + " end;", 241, 3);
-        faultDue(Bench.times("end;", 60) + "else", 240, 1);
-        programDue(Bench.times("end;", 60) + " \n", 60, 0);
-        programDue("proc p{" + Bench.times("end;", 30) + "}" + Bench.times("a=1;", 30), 60, 0);
-        faultDue("proc p{" + Bench.times("end;", 30) + "}" + Bench.times("a=1;", 31), 248, 3);
-        programDue("a=b" + Bench.times("+b", 149) + ";", 1, 0);
-        faultDue("a=b" + Bench.times("+b", 150) + ";", 302, 3);
-        faultDue("a=b" + Bench.times("+b", 149) + "+256;", 302, 2);
-        faultDue("a=b" + Bench.times("+b", 149) + "+;", 302, 1);
+        b.programDue(Bench.times("end;", 60), 60, 0);
+        b.faultDue(Bench.times("end;", 60) + " end;", 241, 3);
+        b.faultDue(Bench.times("end;", 60) + "else", 240, 1);
+        b.programDue(Bench.times("end;", 60) + " \n", 60, 0);
+        b.programDue("proc p{" + Bench.times("end;", 30) + "}" + Bench.times("a=1;", 30), 60, 0);
+        b.faultDue("proc p{" + Bench.times("end;", 30) + "}" + Bench.times("a=1;", 31), 248, 3);
+        b.programDue("a=b" + Bench.times("+b", 149) + ";", 1, 0);
+        b.faultDue("a=b" + Bench.times("+b", 150) + ";", 302, 3);
+        b.faultDue("a=b" + Bench.times("+b", 149) + "+256;", 302, 2);
+        b.faultDue("a=b" + Bench.times("+b", 149) + "+;", 302, 1);
         // 'cell' [ SUM ] and ( SUM ) are UNITS of their own, the place of a STEP's own CELL is not.
-        programDue("cell[b]=b" + Bench.times("+b", 144) + "+(b)+cell[b];", 1, 0);
-        faultDue("cell[b]=b" + Bench.times("+b", 144) + "+(b)+cell[b]+b;", 310, 3);
-        faultDue("a=b" + Bench.times("+b", 149) + "+cell[", 302, 3);
-        faultDue("a=b" + Bench.times("+b", 149) + "+(", 302, 3);
-        programDue("a=" + Bench.times("(", 10) + "b" + Bench.times(")", 10) + ";", 1, 0);
-        faultDue("a=" + Bench.times("(", 11) + "b", 12, 3);
-        faultDue("a=" + Bench.times("(", 10) + "cell[", 16, 3);
-        faultDue("a=" + Bench.times("(", 10) + "{", 12, 1);
-        programDue(Bench.times("if a=1{", 10) + Bench.times("}", 10), 10, 0);
-        programDue("a=" + Bench.times("cell[", 10) + "b" + Bench.times("]", 10) + ";", 1, 0);
-        faultDue("a=" + Bench.times("cell[", 11) + "b", 56, 3);
-        programDue(Bench.times("cell[", 10) + "b" + Bench.times("]", 10) + "=1;", 1, 0);
-        faultDue(Bench.times("cell[", 11) + "b", 54, 3);
-        faultDue("cell[(cell[((((((((1))))))))])]=1;", 18, 3);
-        programDue("cell[(cell[(((((((1)))))))])]=1;", 1, 0);
-        faultDue(Bench.times("if a=1{", 10) + "if a=1{", 76, 3);
-        faultDue(Bench.times("if a=1{", 10) + "if a=(1", 75, 3);
-        faultDue(Bench.times("if a=1{", 10) + "cell[", 74, 3);
-        programDue("proc p{" + Bench.times("while a=1{", 8) + "a=(1);" + Bench.times("}", 9), 9, 0);
-        faultDue("proc p{" + Bench.times("while a=1{", 8) + "a=((1));", 90, 3);
+        b.programDue("cell[b]=b" + Bench.times("+b", 144) + "+(b)+cell[b];", 1, 0);
+        b.faultDue("cell[b]=b" + Bench.times("+b", 144) + "+(b)+cell[b]+b;", 310, 3);
+        b.faultDue("a=b" + Bench.times("+b", 149) + "+cell[", 302, 3);
+        b.faultDue("a=b" + Bench.times("+b", 149) + "+(", 302, 3);
+        b.programDue("a=" + Bench.times("(", 10) + "b" + Bench.times(")", 10) + ";", 1, 0);
+        b.faultDue("a=" + Bench.times("(", 11) + "b", 12, 3);
+        b.faultDue("a=" + Bench.times("(", 10) + "cell[", 16, 3);
+        b.faultDue("a=" + Bench.times("(", 10) + "{", 12, 1);
+        b.programDue(Bench.times("if a=1{", 10) + Bench.times("}", 10), 10, 0);
+        b.programDue("a=" + Bench.times("cell[", 10) + "b" + Bench.times("]", 10) + ";", 1, 0);
+        b.faultDue("a=" + Bench.times("cell[", 11) + "b", 56, 3);
+        b.programDue(Bench.times("cell[", 10) + "b" + Bench.times("]", 10) + "=1;", 1, 0);
+        b.faultDue(Bench.times("cell[", 11) + "b", 54, 3);
+        b.faultDue("cell[(cell[((((((((1))))))))])]=1;", 18, 3);
+        b.programDue("cell[(cell[(((((((1)))))))])]=1;", 1, 0);
+        b.faultDue(Bench.times("if a=1{", 10) + "if a=1{", 76, 3);
+        b.faultDue(Bench.times("if a=1{", 10) + "if a=(1", 75, 3);
+        b.faultDue(Bench.times("if a=1{", 10) + "cell[", 74, 3);
+        b.programDue("proc p{" + Bench.times("while a=1{", 8) + "a=(1);" + Bench.times("}", 9), 9, 0);
+        b.faultDue("proc p{" + Bench.times("while a=1{", 8) + "a=((1));", 90, 3);
         // What is closed counts no more.
-        programDue("a=((((((1))))))+((((((1))))));b=((((((1))))));", 2, 0);
+        b.programDue("a=((((((1))))))+((((((1))))));b=((((((1))))));", 2, 0);
         b.close("promise 4: FAULT 3 and its places");
     }
 
     private static void promise4LongTexts() {
         String longText = "a=1;" + Bench.times(" ", 496);
-        programDue(longText, 1, 0);
-        faultDue(longText + " ", 500, 1);
-        faultDue(longText + "a=1;", 500, 1);
-        faultDue("a=1;" + Bench.times(" ", 495) + "a=1;", 500, 1);
-        faultDue("a=1 " + Bench.times(" ", 496), 500, 1);
+        b.programDue(longText, 1, 0);
+        b.faultDue(longText + " ", 500, 1);
+        b.faultDue(longText + "a=1;", 500, 1);
+        b.faultDue("a=1;" + Bench.times(" ", 495) + "a=1;", 500, 1);
+        b.faultDue("a=1 " + Bench.times(" ", 496), 500, 1);
         // TOKENS that begin ahead of 500 are read whole.
-        faultDue("a=1;" + Bench.times(" ", 494) + "end;", 500, 1);
-        faultDue("a=1;" + Bench.times(" ", 494) + "en;", 498, 1);
-        faultDue("a=1;" + Bench.times(" ", 494) + "endend;", 498, 1);
-        faultDue("a=1;a=" + Bench.times(" ", 493) + "255;", 500, 1);
-        faultDue("a=1;a=" + Bench.times(" ", 493) + "256;", 499, 2);
-        faultDue("a=1;a=" + Bench.times(" ", 493) + "2555;", 499, 1);
-        faultDue("a=1;a=" + Bench.times(" ", 494) + "256;", 500, 1);
-        faultDue(Bench.times("a", 540), 0, 1);
-        faultDue(Bench.times(" ", 540), 500, 1);
+        b.faultDue("a=1;" + Bench.times(" ", 494) + "end;", 500, 1);
+        b.faultDue("a=1;" + Bench.times(" ", 494) + "en;", 498, 1);
+        b.faultDue("a=1;" + Bench.times(" ", 494) + "endend;", 498, 1);
+        b.faultDue("a=1;a=" + Bench.times(" ", 493) + "255;", 500, 1);
+        b.faultDue("a=1;a=" + Bench.times(" ", 493) + "256;", 499, 2);
+        b.faultDue("a=1;a=" + Bench.times(" ", 493) + "2555;", 499, 1);
+        b.faultDue("a=1;a=" + Bench.times(" ", 494) + "256;", 500, 1);
+        b.faultDue(Bench.times("a", 540), 0, 1);
+        b.faultDue(Bench.times(" ", 540), 500, 1);
         b.close("promise 4: texts of more than 500 bytes");
     }
 
@@ -342,7 +313,7 @@ public final class PromisesTest {
         }
         b.due("the same sizes", x.sizes(3, 1, 0), true);
         b.due("nothing is walked then", x.along(0), -1);
-        b.due("nothing is walked then", Bench.way(x, 0, 0), THROWS);
+        b.due("nothing is walked then", Bench.way(x, 0, 0), Bench.THROWS);
         int[][] right = {{2, 1, 0}, {6, 1, 1}, {4, 3, 0}, {4, 1, 2}, {3, 2, 2}, {2, 3, 2}, {6, 2, 0}, {5, 1, 1}};
         for (int[] r : right) {
             b.due("sizes", x.sizes(r[0], r[1], r[2]), true);
@@ -353,7 +324,7 @@ public final class PromisesTest {
             b.due("ROWS", Bench.way(x, 0, 3), 1 << (r[0] * (r[1] + r[2])));
         }
         // A text's NUMBERS wrap by the SIZES of the RUN, not of the reading.
-        x = with("h=200+100;");
+        x = Bench.with("h=200+100;");
         x.sizes(6, 1, 0);
         x.run(0, 0, 1);
         b.due("300 by 64", x.got(7), 44);
@@ -364,7 +335,7 @@ public final class PromisesTest {
     }
 
     private static void promise7Walk() {
-        AllWays x = with("if a<3{must a#1;}else{h=7/(a-5);}");
+        AllWays x = Bench.with("if a<3{must a#1;}else{h=7/(a-5);}");
         b.due("walk", x.walk(0, 5), 4);
         b.due("no such k", x.walk(4, 5), -1);
         b.due("no such k", x.walk(-1, 5), -1);
@@ -373,7 +344,7 @@ public final class PromisesTest {
         b.due("what was walked stays", x.along(0), 1);
         b.due("another PROGRAM", x.walk(1, 40), 1);
         b.due("is walked now", x.along(0), 0);
-        x = with("if a>0{}if a>1{}if a>2{}if a>3{}if a>4{}if a>5{}if a>6{}");
+        x = Bench.with("if a>0{}if a>1{}if a>2{}if a>3{}if a>4{}if a>5{}if a>6{}");
         b.due("a WAY a ROW", x.walk(0, 40), 8);
         x.sizes(6, 2, 0);
         Bench.program(x, 0, "while a>0{a=a-1;}while b>0{b=b-1;}");
@@ -390,70 +361,64 @@ public final class PromisesTest {
         b.close("promise 7: walk");
     }
 
-    private static void wayDue(AllWays x, int i, int... all) {
-        for (int what = 0; what < 6; what++) {
-            b.due("way(" + i + ", " + what + ")", Bench.way(x, i, what), all[what]);
-        }
-    }
-
     private static void promise8Way() {
-        AllWays x = with("if a<3{must a#1;}else{h=7/(a-5);}");
+        AllWays x = Bench.with("if a<3{must a#1;}else{h=7/(a-5);}");
         x.walk(0, 5);
-        wayDue(x, 0, 1, 1, 1, 1, 1, 2);
-        wayDue(x, 1, 0, -1, 1, 2, 0, 2);
-        wayDue(x, 2, 2, 2, 1, 1, 5, 2);
-        wayDue(x, 3, 0, -1, 1, 4, 3, 2);
-        b.due("way(4, 0)", Bench.way(x, 4, 0), THROWS);
-        b.due("way(-1, 0)", Bench.way(x, -1, 0), THROWS);
-        b.due("way(0, 6)", Bench.way(x, 0, 6), THROWS);
-        b.due("way(0, -1)", Bench.way(x, 0, -1), THROWS);
-        x = with("end;a=1;");
+        b.wayDue(x, 0, 1, 1, 1, 1, 1, 2);
+        b.wayDue(x, 1, 0, -1, 1, 2, 0, 2);
+        b.wayDue(x, 2, 2, 2, 1, 1, 5, 2);
+        b.wayDue(x, 3, 0, -1, 1, 4, 3, 2);
+        b.due("way(4, 0)", Bench.way(x, 4, 0), Bench.THROWS);
+        b.due("way(-1, 0)", Bench.way(x, -1, 0), Bench.THROWS);
+        b.due("way(0, 6)", Bench.way(x, 0, 6), Bench.THROWS);
+        b.due("way(0, -1)", Bench.way(x, 0, -1), Bench.THROWS);
+        x = Bench.with("end;a=1;");
         x.walk(0, 1);
-        wayDue(x, 0, 0, 0, 0, 8, 0, 1);
-        x = with("let a>5;");
+        b.wayDue(x, 0, 0, 0, 0, 8, 0, 1);
+        x = Bench.with("let a>5;");
         x.walk(0, 1);
-        wayDue(x, 0, 4, 0, 0, 6, 0, 1);
-        wayDue(x, 1, 0, -1, 0, 2, 6, 1);
-        x = with("while a=a{}");
+        b.wayDue(x, 0, 4, 0, 0, 6, 0, 1);
+        b.wayDue(x, 1, 0, -1, 0, 2, 6, 1);
+        x = Bench.with("while a=a{}");
         x.walk(0, 40);
-        wayDue(x, 0, 5, 0, 40, 8, 0, 41);
+        b.wayDue(x, 0, 5, 0, 40, 8, 0, 41);
         // A call of q takes 280 STEPS, and 840 + 1 + 5 * 31 + 1 are 997: the 1001st is the fourth of p.
-        x = with("proc p{" + Bench.times("b=1;", 30) + "}proc q{" + Bench.times("call p;", 9)
+        x = Bench.with("proc p{" + Bench.times("b=1;", 30) + "}proc q{" + Bench.times("call p;", 9)
                 + "}call q;call q;call q;call q;");
         x.walk(0, 1);
-        wayDue(x, 0, 5, 3, 0, 8, 0, 1001);
+        b.wayDue(x, 0, 5, 3, 0, 8, 0, 1001);
         b.close("promise 8: way");
     }
 
     private static void promise8Order() {
         // What ends at a STEP is ahead of what goes on there, of several the lesser end; the end behind the last
         // STEP is no end at that STEP.
-        AllWays x = with("must 8/a+cell[a-4]#1;", 4, 1, 0);
+        AllWays x = Bench.with("must 8/a+cell[a-4]#1;", 4, 1, 0);
         x.walk(0, 1);
-        wayDue(x, 0, 1, 0, 0, 4, 5, 1);
-        wayDue(x, 1, 2, 0, 0, 1, 0, 1);
-        wayDue(x, 2, 3, 0, 0, 7, 1, 1);
-        wayDue(x, 3, 0, -1, 0, 4, 4, 1);
+        b.wayDue(x, 0, 1, 0, 0, 4, 5, 1);
+        b.wayDue(x, 1, 2, 0, 0, 1, 0, 1);
+        b.wayDue(x, 2, 3, 0, 0, 7, 1, 1);
+        b.wayDue(x, 3, 0, -1, 0, 4, 4, 1);
         // An end in a COND is ahead of both DECISIONS, yes is ahead of no whatever comes of it.
-        x = with("if 4/a>1{a=a;a=a;a=1/(a-1);}else{end;}h=1;");
+        x = Bench.with("if 4/a>1{a=a;a=a;a=1/(a-1);}else{end;}h=1;");
         x.walk(0, 1);
-        wayDue(x, 0, 2, 0, 0, 1, 0, 1);
-        wayDue(x, 1, 2, 3, 1, 1, 1, 4);
-        wayDue(x, 2, 0, -1, 1, 1, 2, 5);
-        wayDue(x, 3, 0, 4, 1, 5, 3, 2);
+        b.wayDue(x, 0, 2, 0, 0, 1, 0, 1);
+        b.wayDue(x, 1, 2, 3, 1, 1, 1, 4);
+        b.wayDue(x, 2, 0, -1, 1, 1, 2, 5);
+        b.wayDue(x, 3, 0, 4, 1, 5, 3, 2);
         // Fewer rounds end behind more: the no comes behind the yes.
-        x = with("while a>0{a=a-1;}");
+        x = Bench.with("while a>0{a=a-1;}");
         x.walk(0, 8);
-        wayDue(x, 0, 0, -1, 8, 1, 7, 15);
-        wayDue(x, 7, 0, -1, 1, 1, 0, 1);
+        b.wayDue(x, 0, 0, -1, 8, 1, 7, 15);
+        b.wayDue(x, 7, 0, -1, 1, 1, 0, 1);
         x.walk(0, 3);
-        wayDue(x, 0, 5, 0, 3, 5, 3, 7);
-        wayDue(x, 1, 0, -1, 3, 1, 2, 5);
+        b.wayDue(x, 0, 5, 0, 3, 5, 3, 7);
+        b.wayDue(x, 1, 0, -1, 3, 1, 2, 5);
         b.close("promise 8: the ORDER of WAYS");
     }
 
     private static void promise9Went() {
-        AllWays x = with("while a>0{a=a-1;if a=2{}}");
+        AllWays x = Bench.with("while a>0{a=a-1;if a=2{}}");
         x.walk(0, 40);
         b.due("along", x.along(3), 0);
         int[] three = {1, 1, 1, 0, 1, 0, 0};
@@ -466,7 +431,7 @@ public final class PromisesTest {
         b.due("went(-1, 0)", x.went(-1, 0), -1);
         b.due("went(7, 0)", x.went(7, 0), 0);
         b.due("went(7, 1)", x.went(7, 1), -1);
-        x = with("while a=a{}");
+        x = Bench.with("while a=a{}");
         x.walk(0, 40);
         b.due("the fortieth", x.went(0, 39), 1);
         b.due("no 41st", x.went(0, 40), -1);
@@ -474,7 +439,7 @@ public final class PromisesTest {
     }
 
     private static void promise10Along() {
-        AllWays x = with("if a<3{must a#1;}else{h=7/(a-5);}");
+        AllWays x = Bench.with("if a<3{must a#1;}else{h=7/(a-5);}");
         x.walk(0, 5);
         int[] along = {1, 0, 1, 3, 3, 2, 3, 3};
         for (int row = 0; row < 8; row++) {
@@ -482,7 +447,7 @@ public final class PromisesTest {
         }
         b.due("along(8)", x.along(8), -1);
         b.due("along(-1)", x.along(-1), -1);
-        x = with("ask c;if a+2*b=c{}", 2, 2, 1);
+        x = Bench.with("ask c;if a+2*b=c{}", 2, 2, 1);
         x.walk(0, 5);
         // a 1, b 2, the answer behind the letters: 1 + 4 * 2 + 16 * 1.
         b.due("along(25)", x.along(25), 0);
@@ -493,7 +458,7 @@ public final class PromisesTest {
     }
 
     private static void promise11Least() {
-        AllWays x = with("let a>0;must a>1;b=6/(a-2);while a>5{}end;");
+        AllWays x = Bench.with("let a>0;must a>1;b=6/(a-2);while a>5{}end;");
         x.walk(0, 3);
         int[][] due = {{4, 0, 0}, {4, -1, 0}, {4, 1, -1}, {1, 1, 1}, {1, -1, 1}, {2, 2, 2}, {2, -1, 2}, {3, -1, -1},
             {5, 3, 6}, {5, -1, 6}, {0, 4, 3}, {0, -1, 3}, {0, 0, -1}, {6, -1, -1}, {-1, -1, -1}, {0, 5, -1},
@@ -505,7 +470,7 @@ public final class PromisesTest {
     }
 
     private static void promise12May() {
-        AllWays x = with("if a=5{let a=0;b=1;}b=a*2;while a<2{a=a+1;}end;c=1;");
+        AllWays x = Bench.with("if a=5{let a=0;b=1;}b=a*2;while a<2{a=a+1;}end;c=1;");
         x.walk(0, 40);
         // The ROW 5 ends by 4 and counts nothing, not even ahead of that.
         int[][] due = {{0, 0, 0, 7}, {0, 0, 1, 0}, {0, 0, 2, 7}, {1, 0, 0, -1}, {2, 0, 0, -1}, {3, 0, 0, 7},
@@ -522,56 +487,49 @@ public final class PromisesTest {
         b.due("one number", x.may(1, 0, 2), 1);
         b.due("one number", x.may(0, 1, 0), 1);
         b.due("STEP of the earlier one", x.may(4, 0, 0), -1);
-        x = with("b=a;end;", 6, 1, 0);
+        x = Bench.with("b=a;end;", 6, 1, 0);
         x.walk(0, 1);
         b.due("64 numbers", x.may(1, 1, 0), 64);
         b.due("up to 63", x.may(1, 1, 2), 63);
         // A STEP that runs out of fuel is BEGUN all the same.
-        x = with("a=1;if a=a{}if a=a{}a=2;");
+        x = Bench.with("a=1;if a=a{}if a=a{}a=2;");
         x.walk(0, 1);
         b.due("BEGUN at the end of the fuel", x.may(2, 0, 0), 1);
         b.due("not behind it", x.may(3, 0, 0), -1);
         b.close("promise 12: may");
     }
 
-    private static void lawDue(AllWays x, int step, int name, String rs, int other) {
-        for (int r = 0; r < 4; r++) {
-            b.due("law(" + step + ", " + name + ", " + r + ", " + other + ")", x.law(step, name, r, other),
-                    rs.charAt(r) - '0');
-        }
-    }
-
     private static void promise13Law() {
-        AllWays x = with("let a>1;let a<6;b=a+1;c=a;if a=3{d=a-1;}e=7;let a=9;");
+        AllWays x = Bench.with("let a>1;let a<6;b=a+1;c=a;if a=3{d=a-1;}e=7;let a=9;");
         Bench.program(x, 0, "let a>1;let a<6;b=a+1;c=a;if a=3{d=a-1;}e=7;end;");
         x.walk(0, 5);
-        lawDue(x, 6, 0, "1001", 1);
-        lawDue(x, 6, 1, "0011", 0);
-        lawDue(x, 6, 0, "0100", 2);
-        lawDue(x, 6, 2, "0100", 0);
-        lawDue(x, 6, 0, "0100", 0);
-        lawDue(x, 6, 3, "1001", 0);
-        lawDue(x, 6, 0, "0011", 3);
-        lawDue(x, 5, 0, "0100", 103);
-        lawDue(x, 6, 0, "0011", 101);
-        lawDue(x, 6, 0, "0000", 102);
-        lawDue(x, 6, 0, "0000", 105);
-        lawDue(x, 6, 0, "1001", 106);
-        lawDue(x, 6, 3, "0000", 102);
-        lawDue(x, 6, 3, "1001", 103);
-        lawDue(x, 6, 3, "0001", 101);
-        lawDue(x, 6, 4, "0100", 100);
-        lawDue(x, 7, 4, "0100", 107);
-        lawDue(x, 7, 4, "0011", 100);
+        b.lawDue(x, 6, 0, "1001", 1);
+        b.lawDue(x, 6, 1, "0011", 0);
+        b.lawDue(x, 6, 0, "0100", 2);
+        b.lawDue(x, 6, 2, "0100", 0);
+        b.lawDue(x, 6, 0, "0100", 0);
+        b.lawDue(x, 6, 3, "1001", 0);
+        b.lawDue(x, 6, 0, "0011", 3);
+        b.lawDue(x, 5, 0, "0100", 103);
+        b.lawDue(x, 6, 0, "0011", 101);
+        b.lawDue(x, 6, 0, "0000", 102);
+        b.lawDue(x, 6, 0, "0000", 105);
+        b.lawDue(x, 6, 0, "1001", 106);
+        b.lawDue(x, 6, 3, "0000", 102);
+        b.lawDue(x, 6, 3, "1001", 103);
+        b.lawDue(x, 6, 3, "0001", 101);
+        b.lawDue(x, 6, 4, "0100", 100);
+        b.lawDue(x, 7, 4, "0100", 107);
+        b.lawDue(x, 7, 4, "0011", 100);
         // What ROWS do that end by 4 counts nothing: at the beginning a is 2 to 5.
-        lawDue(x, 0, 0, "0011", 101);
+        b.lawDue(x, 0, 0, "0011", 101);
         int[][] none = {{8, 0, 0, 1}, {-1, 0, 0, 1}, {0, 8, 0, 1}, {0, -1, 0, 1}, {0, 0, 4, 1}, {0, 0, -1, 1},
             {0, 0, 0, 8}, {0, 0, 0, 99}, {0, 0, 0, -1}, {0, 0, 0, 108}, {60, 0, 0, 1}};
         for (int[] n : none) {
             b.due("law of none such", x.law(n[0], n[1], n[2], n[3]), -1);
         }
         b.due("the greatest number", x.law(0, 0, 0, 107), 1);
-        x = with("if a>7{b=1;}else{end;}");
+        x = Bench.with("if a>7{b=1;}else{end;}");
         x.walk(0, 5);
         b.due("never BEGUN", x.law(1, 0, 1, 0), -1);
         x.sizes(6, 1, 0);
@@ -584,44 +542,44 @@ public final class PromisesTest {
     }
 
     private static void promise14Cover() {
-        AllWays x = with("a=1;");
+        AllWays x = Bench.with("a=1;");
         b.due("nothing walked", x.cover(), -1);
         x.walk(0, 1);
         b.due("one", x.cover(), 1);
         b.due("the least", x.coverAt(0), 0);
-        x = with("if a>2{b=1;}if a<6{b=2;}");
+        x = Bench.with("if a>2{b=1;}if a<6{b=2;}");
         x.walk(0, 5);
         b.due("one goes through all", x.cover(), 1);
         b.due("the least such", x.coverAt(0), 3);
-        x = with("if a>2{b=1;}else{b=2;}if a=5{b=3;}");
+        x = Bench.with("if a>2{b=1;}else{b=2;}if a=5{b=3;}");
         x.walk(0, 5);
         b.due("two", x.cover(), 2);
         b.due("the lesser", x.coverAt(0), 0);
         b.due("the other", x.coverAt(1), 5);
         b.due("no third", x.coverAt(2), -1);
-        x = with("if a=1{b=1;}if a=4{b=2;}if a=6{b=3;}");
+        x = Bench.with("if a=1{b=1;}if a=4{b=2;}if a=6{b=3;}");
         x.walk(0, 5);
         b.due("three are needed", x.cover(), -1);
         // ROWS that end by 4 BEGIN nothing that counts.
-        x = with("if a=1{b=1;}if a=4{b=2;}if a=6{let a=0;}");
+        x = Bench.with("if a=1{b=1;}if a=4{b=2;}if a=6{let a=0;}");
         x.walk(0, 5);
         b.due("two", x.cover(), 2);
         b.due("the lesser", x.coverAt(0), 1);
         b.due("the other", x.coverAt(1), 4);
-        x = with("let a#a;");
+        x = Bench.with("let a#a;");
         x.walk(0, 5);
         b.due("nothing to cover", x.cover(), 0);
-        x = with("let a=3;");
+        x = Bench.with("let a=3;");
         x.walk(0, 5);
         b.due("one", x.cover(), 1);
         b.due("that does not end by 4", x.coverAt(0), 3);
-        x = with("if a<2{let a=9;}if a=5{b=1;}else{b=2;}");
+        x = Bench.with("if a<2{let a=9;}if a=5{b=1;}else{b=2;}");
         x.walk(0, 5);
         b.due("two", x.cover(), 2);
         b.due("the lesser", x.coverAt(0), 1);
         b.due("the other", x.coverAt(1), 5);
         // Of several pairs the first ROW counts most.
-        x = with("if a#0{if a#7{if a<4{b=1;}else{b=2;}}}");
+        x = Bench.with("if a#0{if a#7{if a<4{b=1;}else{b=2;}}}");
         x.walk(0, 5);
         b.due("two", x.cover(), 2);
         b.due("the lesser", x.coverAt(0), 1);
@@ -630,7 +588,7 @@ public final class PromisesTest {
     }
 
     private static void promise15CoverAt() {
-        AllWays x = with("if a>2{b=1;}else{b=2;}");
+        AllWays x = Bench.with("if a>2{b=1;}else{b=2;}");
         b.due("ahead of any", x.coverAt(0), -1);
         x.cover();
         b.due("nothing walked", x.coverAt(0), -1);
@@ -656,7 +614,7 @@ public final class PromisesTest {
     }
 
     private static void promise16Alike() {
-        AllWays x = with("h=a+a;");
+        AllWays x = Bench.with("h=a+a;");
         Bench.program(x, 1, "b=7;h=2*a;cell[1]=3;");
         Bench.program(x, 2, "h=a;if a=3{h=6;}else{h=h*2;}if a=5{must a=0;}");
         Bench.program(x, 3, "while a=a{}");
@@ -686,7 +644,7 @@ public final class PromisesTest {
     }
 
     private static void promise17Safe() {
-        AllWays x = with("ask c;must c<a or a=3;b=4/(a-1);", 2, 1, 1);
+        AllWays x = Bench.with("ask c;must c<a or a=3;b=4/(a-1);", 2, 1, 1);
         // Only with 3 all answers are fine.
         b.due("safe", x.safe(0, 5), 1);
         b.due("no such k", x.safe(4, 5), -1);
@@ -705,7 +663,7 @@ public final class PromisesTest {
     }
 
     private static void promise18Unsafe() {
-        AllWays x = with("must a#0;must a#5;");
+        AllWays x = Bench.with("must a#0;must a#5;");
         b.due("ahead of any", x.unsafe(), -1);
         x.safe(0, 0);
         b.due("NONE is none", x.unsafe(), -1);
@@ -729,7 +687,7 @@ public final class PromisesTest {
     }
 
     private static void promise19Rule() {
-        AllWays x = with("ask b;must b>a or a=7;", 3, 1, 1);
+        AllWays x = Bench.with("ask b;must b>a or a=7;", 3, 1, 1);
         b.due("the greatest", x.rule(0, 1), 7);
         Bench.program(x, 0, "ask b;must b>4;ask c;must c<6;");
         b.due("behind the O-th ask, too", x.rule(0, 1), 5);
@@ -751,7 +709,7 @@ public final class PromisesTest {
     }
 
     private static void promise20Rounds() {
-        AllWays x = with("proc p{while b<2{b=b+1;}}if a=6{let a=0;}while a<4{a=a+1;}call p;b=0;call p;if a=9{}"
+        AllWays x = Bench.with("proc p{while b<2{b=b+1;}}if a=6{let a=0;}while a<4{a=a+1;}call p;b=0;call p;if a=9{}"
                 + "while a>7{}");
         b.due("nothing walked", x.rounds(0, 0), -1);
         x.walk(0, 40);
@@ -781,7 +739,7 @@ public final class PromisesTest {
     }
 
     private static void promise21Laws() {
-        AllWays x = with("end;", 3, 3, 0);
+        AllWays x = Bench.with("end;", 3, 3, 0);
         b.due("nothing walked", x.laws(0), -1);
         x.walk(0, 1);
         // d to h are 0: ten pairs of them.
@@ -801,7 +759,7 @@ public final class PromisesTest {
     }
 
     private static void promise22LawAt() {
-        AllWays x = with("let a<b;let b<c;end;", 3, 3, 0);
+        AllWays x = Bench.with("let a<b;let b<c;end;", 3, 3, 0);
         b.due("ahead of any", x.lawAt(0), -1);
         x.walk(0, 1);
         b.due("laws", x.laws(2), 23);
@@ -826,7 +784,7 @@ public final class PromisesTest {
     }
 
     private static void promise23Hangs() {
-        AllWays x = with("if b=2{h=a;}else{h=b;}", 2, 2, 1);
+        AllWays x = Bench.with("if b=2{h=a;}else{h=b;}", 2, 2, 1);
         b.due("on a, where b is 2", x.hangs(0, 0, 5), 8);
         b.due("on b", x.hangs(0, 1, 5), 0);
         b.due("no such letter", x.hangs(0, 2, 5), -2);
@@ -847,7 +805,7 @@ public final class PromisesTest {
     }
 
     private static void promise24Reach() {
-        AllWays x = with("h=a*a;must a#2;");
+        AllWays x = Bench.with("h=a*a;must a#2;");
         b.due("0", x.reach(0, 0, 1), 0);
         b.due("1", x.reach(0, 1, 1), 1);
         b.due("4, but not by 2, which ends by 1", x.reach(0, 4, 1), 6);
@@ -865,7 +823,7 @@ public final class PromisesTest {
     }
 
     private static void promise25Mend() {
-        AllWays x = with("b=2;must a<5+b or a=7;");
+        AllWays x = Bench.with("b=2;must a<5+b or a=7;");
         b.due("no need", x.mend(0, 1), -1);
         Bench.program(x, 0, "b=1;must a<5+b;");
         b.due("none does: 7 is not below 7", x.mend(0, 1), -1);
@@ -902,7 +860,7 @@ public final class PromisesTest {
     }
 
     private static void promise26Mended() {
-        AllWays x = with("must 3>a;");
+        AllWays x = Bench.with("must 3>a;");
         b.due("ahead of any", x.mended(), -1);
         b.due("none", x.mend(0, 1), -1);
         b.due("ahead of any that told one", x.mended(), -1);
@@ -921,36 +879,29 @@ public final class PromisesTest {
         b.close("promise 26: mended");
     }
 
-    private static void claimDue(String text, int told, int fault) {
-        AllWays x = new AllWays();
-        b.due("claim of " + text, Bench.claim(x, text), told);
-        b.due("fault of " + text, x.fault(), fault);
-        b.due("the tape is empty then", x.count(3), 0);
-    }
-
     private static void promise27Claim() {
-        claimDue("a=1", 1, 0);
-        claimDue("a=1 and b<cell[2]and(a+b)*3>c", 3, 0);
-        claimDue("", -1, 1);
-        claimDue("  ", -3, 1);
-        claimDue("a=1 and", -8, 1);
-        claimDue("a=1 or b=1", -5, 1);
-        claimDue("a=1;", -4, 1);
-        claimDue("a", -2, 1);
-        claimDue("(a=1)", -3, 1);
-        claimDue("a=1 b", -5, 1);
-        claimDue("a=256", -3, 2);
-        claimDue("p=1", -1, 1);
-        claimDue("a=1" + Bench.times(" and a=1", 19), 20, 0);
-        claimDue("a=1" + Bench.times(" and a=1", 19) + " and 255=a", -161, 3);
-        claimDue("a=1" + Bench.times(" and a=1", 19) + " and 256=a", -161, 2);
-        claimDue("a=1" + Bench.times(" and a=1", 19) + " and ;", -161, 1);
-        claimDue("a=1" + Bench.times(" and a=1", 19) + " and", -160, 1);
-        claimDue("a=" + Bench.times("(", 11) + "a", -13, 3);
-        claimDue("a=b" + Bench.times("+b", 148), 1, 0);
-        claimDue("a=b" + Bench.times("+b", 149), -301, 3);
-        claimDue("a=1" + Bench.times(" ", 497), 1, 0);
-        claimDue("a=1" + Bench.times(" ", 498), -501, 1);
+        b.claimDue("a=1", 1, 0);
+        b.claimDue("a=1 and b<cell[2]and(a+b)*3>c", 3, 0);
+        b.claimDue("", -1, 1);
+        b.claimDue("  ", -3, 1);
+        b.claimDue("a=1 and", -8, 1);
+        b.claimDue("a=1 or b=1", -5, 1);
+        b.claimDue("a=1;", -4, 1);
+        b.claimDue("a", -2, 1);
+        b.claimDue("(a=1)", -3, 1);
+        b.claimDue("a=1 b", -5, 1);
+        b.claimDue("a=256", -3, 2);
+        b.claimDue("p=1", -1, 1);
+        b.claimDue("a=1" + Bench.times(" and a=1", 19), 20, 0);
+        b.claimDue("a=1" + Bench.times(" and a=1", 19) + " and 255=a", -161, 3);
+        b.claimDue("a=1" + Bench.times(" and a=1", 19) + " and 256=a", -161, 2);
+        b.claimDue("a=1" + Bench.times(" and a=1", 19) + " and ;", -161, 1);
+        b.claimDue("a=1" + Bench.times(" and a=1", 19) + " and", -160, 1);
+        b.claimDue("a=" + Bench.times("(", 11) + "a", -13, 3);
+        b.claimDue("a=b" + Bench.times("+b", 148), 1, 0);
+        b.claimDue("a=b" + Bench.times("+b", 149), -301, 3);
+        b.claimDue("a=1" + Bench.times(" ", 497), 1, 0);
+        b.claimDue("a=1" + Bench.times(" ", 498), -501, 1);
         AllWays x = new AllWays();
         Bench.claim(x, "a>3 and a<6");
         Bench.claim(x, "a=");
@@ -987,14 +938,6 @@ public final class PromisesTest {
         b.close("promise 28: holds");
     }
 
-    private static void proofDue(AllWays x, int... due) {
-        b.due("proof", x.proof(), due.length);
-        for (int k = 0; k < due.length; k++) {
-            b.due("proofAt(" + k + ")", x.proofAt(k), due[k]);
-        }
-        b.due("nothing behind it", x.proofAt(due.length), -1);
-    }
-
     private static void promise29Proof() {
         AllWays x = new AllWays();
         b.due("no CLAIM", x.proof(), -2);
@@ -1002,14 +945,14 @@ public final class PromisesTest {
         b.due("it holds for 1", x.proof(), -1);
         Bench.claim(x, "a=1 and a=2 and a=8");
         // 8 is 0: no TEST fails for all; bit 0 parts a=1 from the others.
-        proofDue(x, 0, 100 + 0, 100 + 1);
+        b.proofDue(x, 0, 100 + 0, 100 + 1);
         Bench.claim(x, "a=a and b=1 and a#a");
-        proofDue(x, 101);
+        b.proofDue(x, 101);
         Bench.claim(x, "a>3 and a<4");
-        proofDue(x, 2, 100, 101);
+        b.proofDue(x, 2, 100, 101);
         x.sizes(2, 2, 0);
         Bench.claim(x, "a+b=1 and a=b");
-        proofDue(x, 0, 2, 100, 101, 2, 101, 100);
+        b.proofDue(x, 0, 2, 100, 101, 2, 101, 100);
         x.sizes(2, 3, 1);
         b.due("8 bits", x.proof() > 0, true);
         x.sizes(3, 3, 0);
@@ -1017,7 +960,7 @@ public final class PromisesTest {
         // A bit of an answer may be parted, too, but never helps.
         x.sizes(2, 1, 3 - 1);
         Bench.claim(x, "a<2 and a>1");
-        proofDue(x, 1, 101, 100);
+        b.proofDue(x, 1, 101, 100);
         x.sizes(4, 2, 0);
         Bench.claim(x, "a=b and a+1=b and a#b");
         b.due("three that cannot be", x.proof() > 0, true);
@@ -1083,7 +1026,7 @@ public final class PromisesTest {
     }
 
     private static void promise32Run() {
-        AllWays x = with("ask b;cell[a]=10/b;must cell[a]#3;let a#1;c=cell[a+b];ask d;ask e;", 4, 1, 1);
+        AllWays x = Bench.with("ask b;cell[a]=10/b;must cell[a]#3;let a#1;c=cell[a+b];ask d;ask e;", 4, 1, 1);
         b.due("1/0", x.run(0, 5, 1), 2);
         b.due("at", x.got(16), 1);
         b.due("a CELL above 7", x.run(0, 8 + 16, 1), 3);
@@ -1140,7 +1083,7 @@ public final class PromisesTest {
     }
 
     private static void promise32Fuel() {
-        AllWays x = with("if a=a{}if a=a{}if 1/0=a{}");
+        AllWays x = Bench.with("if a=a{}if a=a{}if 1/0=a{}");
         b.due("none left for the second", x.run(0, 0, 1), 5);
         b.due("at", x.got(16), 1);
         b.due("none left for the third, which is not worked out", x.run(0, 0, 2), 5);
