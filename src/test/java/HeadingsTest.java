@@ -82,6 +82,7 @@ public final class HeadingsTest {
         gotOfTheLatest();
         gotAheadOfAny();
         countEach();
+        call512();
         b.finish();
     }
 
@@ -490,10 +491,20 @@ public final class HeadingsTest {
         b.due("not BEGUN now", x.may(2, 0, 0), -1);
         b.due("no 'while' now", x.rounds(2, 0), -1);
         b.coverDue(x, 6);
+        b.lawDue(x, 0, 0, "0011", 1);
+        b.lawDue(x, 0, 0, "0100", 106);
+        b.due("laws", x.laws(0), 28);
         x.walk(2, 1);
         b.wayDue(x, 0, 0, -1, 0, 8, 0, 0);
         b.due("no second WAY", Bench.way(x, 1, 0), Bench.THROWS);
         b.coverDue(x);
+        // ROWS that ended well by the earlier walk end by 4 now.
+        Bench.program(x, 2, "a=a;b=1;");
+        x.walk(2, 1);
+        b.coverDue(x, 0);
+        Bench.program(x, 2, "a=a;let a>4;");
+        x.walk(2, 1);
+        b.coverDue(x, 5);
         b.close("promise 7: nothing is left of an earlier walk");
     }
 
@@ -1291,5 +1302,21 @@ public final class HeadingsTest {
         }
         b.due("all but 3", x.count(3), 537);
         b.close("promise 34: NONE for another what");
+    }
+
+    /* Of four calls that go round 127 times, behind three others, the last one is the 511th; then the 512th. */
+    private static void call512() {
+        AllWays x = new AllWays();
+        x.feed(0x69662061, 0x3e337b68, 0x3d613b7d, 0x20202020, 0x20202020);
+        b.due("if a>3{h=a;}", x.program(0), 2);
+        b.due("sizes", x.sizes(6, 2, 0), true);
+        for (int i = 0; i < 127; i++) {
+            b.due("walk", x.walk(0, 40), 2);
+            b.due("run", x.run(0, 4095, 1), 0);
+            b.due("reach", x.reach(0, 63, 1), 63);
+            b.due("along", x.along(i), i % 64 > 3 ? 0 : 1);
+        }
+        b.due("the 512th call", x.cover(), 1);
+        b.close("What it is: 512 calls of one object");
     }
 }

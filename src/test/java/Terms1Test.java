@@ -44,6 +44,7 @@ public final class Terms1Test {
         numbersAbove255();
         placesOfFault3();
         placesOfFault4();
+        textsAreReadAnew();
         b.finish();
     }
 
@@ -492,6 +493,10 @@ public final class Terms1Test {
         b.faultDue("a=1;" + Bench.times(" ", 498) + "?", 500, 1);
         b.faultDue("a=" + Bench.times(" ", 499) + "256;", 500, 1);
         b.faultDue("a=" + Bench.times(" ", 510), 500, 1);
+        b.faultDue("a=(" + Bench.times(" ", 510), 500, 1);
+        b.faultDue("a=cell" + Bench.times(" ", 510), 500, 1);
+        b.faultDue("proc p{}proc" + Bench.times(" ", 510), 500, 1);
+        b.claimFaultDue("a=1 and" + Bench.times(" ", 510), 500, 1);
         b.faultDue("proc p{}" + Bench.times(" ", 492) + "proc p{}", 500, 1);
         b.faultDue(Bench.times("end;", 60) + Bench.times(" ", 260) + "end;", 500, 1);
         b.faultDue(Bench.times(" ", 499) + "a=1;", 500, 1);
@@ -560,5 +565,40 @@ public final class Terms1Test {
         b.faultDue("proc p{}proc p", 13, 4);
         b.faultDue("call r", 5, 4);
         b.close("Terms 1: FAULT 4: a PROC told twice, or not told ahead, at it");
+    }
+
+    /* One object reads a text after the other, with FAULTS and without: what is counted begins at 0 each time. */
+    private static void textsAreReadAnew() {
+        String units = "a=b" + Bench.times("+b", 149);
+        String open = "a=" + Bench.times("(", 10) + "1" + Bench.times(")", 10) + ";";
+        AllWays x = new AllWays();
+        for (int i = 0; i < 3; i++) {
+            b.due("60 STEPS", Bench.program(x, 0, Bench.times("end;", 60)), 60);
+            b.due("61 STEPS", Bench.program(x, 0, Bench.times("end;", 61)), -241);
+            b.due("150 UNITS", Bench.program(x, 0, units + ";"), 1);
+            b.due("151 UNITS", Bench.program(x, 0, units + "+b;"), -303);
+            b.due("10 open", Bench.program(x, 0, open), 1);
+            b.due("10 open, not closed", Bench.program(x, 0, "a=" + Bench.times("(", 10)), -13);
+            b.due("p to s", Bench.program(x, 0, "proc p{}proc q{}proc r{}proc s{}call p;"), 1);
+            b.due("p is not told", Bench.program(x, 0, "call p;"), -6);
+        }
+        x = new AllWays();
+        for (int i = 0; i < 3; i++) {
+            b.due("20 TESTS", Bench.claim(x, "a=1" + Bench.times(" and a=1", 19)), 20);
+            b.due("21 TESTS", Bench.claim(x, "a=1" + Bench.times(" and a=1", 20)), -161);
+            b.due("149 UNITS more", Bench.claim(x, "a=b" + Bench.times("+b", 148)), 1);
+            b.due("150 UNITS more", Bench.claim(x, "a=b" + Bench.times("+b", 149)), -301);
+        }
+        x = new AllWays();
+        for (int i = 0; i < 4; i++) {
+            Bench.program(x, 0, "c=5;c=6;c=7;c=8;c=9;");
+            Bench.program(x, 0, "while a=a{b=1;}must 1=2;");
+            Bench.program(x, 0, "b=2;while a>7{}must 3=4;");
+            b.due("the NUMBERS of this text", x.mend(0, 1), 2);
+            x.walk(0, 1);
+            b.due("no 'while' of an earlier text", x.rounds(0, 1), -1);
+            b.due("the 'while' of this text", x.rounds(1, 1), 0);
+        }
+        b.close("Terms 1: what a text may have counts for each text alone");
     }
 }

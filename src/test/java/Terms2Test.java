@@ -32,6 +32,8 @@ public final class Terms2Test {
         eachPartOfACond();
         layingInACell();
         harmLaysNothing();
+        harmLeavesNothing();
+        endsInProcsLeaveNothing();
         fuelOneToForty();
         fuelForNoSuch();
         decisionsOfAllKinds();
@@ -340,6 +342,18 @@ public final class Terms2Test {
         Bench.program(x, 0, "ask a;ask a;ask a;");
         x.run(0, 7 + 8 * 5 + 64 * 6, 1);
         gotDue(x, 0);
+        for (int answers = 0; answers < 3; answers++) {
+            x.sizes(3, 1, answers);
+            Bench.program(x, 0, Bench.times("ask h;", answers) + "ask h;");
+            b.due("0 for all ROWS", x.alike(0, 1, 1), -1);
+            b.due("0 for all ROWS", x.reach(0, 1, 1), -1);
+            b.due("0 for all ROWS", x.hangs(0, 0, 1), -1);
+            Bench.program(x, 0, Bench.times("ask h;", answers) + "ask h;if h=1{h=a;}else{h=0;}");
+            b.due("0 for all ROWS", x.hangs(0, 0, 1), -1);
+            Bench.program(x, 0, Bench.times("ask h;", answers) + "ask h;must h=0;");
+            b.due("0 for all letters", x.safe(0, 1), 8);
+            b.due("0 for all ROWS", x.walk(0, 1), 1);
+        }
         b.close("Terms 2: 'ask': the next answer of the ROW, 0 behind the last one");
     }
 
@@ -492,6 +506,43 @@ public final class Terms2Test {
         b.endDue(x, 0, 1, 3, 1);
         b.due("CELL 0", x.got(8), 3);
         b.close("Terms 2: '=' that comes to harm lays nothing");
+    }
+
+    /* Many RUNS that break off in the midst of a SUM, then one that goes to its end. */
+    private static void harmLeavesNothing() {
+        AllWays x = Bench.with("h=1+(2+(3+(4+cell[0+(0+(0+6/a))])))*2;", 4, 1, 0);
+        for (int i = 0; i < 60; i++) {
+            b.due("/ by 0", x.run(0, 0, 1), 2);
+        }
+        b.due("no harm", x.run(0, 1, 1), 0);
+        b.due("1+18 by 16", x.got(7), 3);
+        Bench.program(x, 0, "if 1=1 and (2+(3+1/a))=0{}");
+        for (int i = 0; i < 60; i++) {
+            x.walk(0, 1);
+        }
+        Bench.program(x, 0, "h=((((((((((1+2)+3)+4)+5)*2)))))-9);");
+        b.due("no harm", x.run(0, 1, 1), 0);
+        b.due("30-9 by 16", x.got(7), 5);
+        Bench.claim(x, "1+(2+(3+1/a))=7");
+        for (int i = 0; i < 60; i++) {
+            b.due("harm in a CLAIM", x.holds(), 1);
+        }
+        b.due("no harm", x.run(0, 1, 1), 0);
+        b.due("30-9 by 16", x.got(7), 5);
+        b.close("Terms 2: a RUN that comes to harm leaves nothing for the next one");
+    }
+
+    private static void endsInProcsLeaveNothing() {
+        AllWays x = Bench.with("proc p{if a=0{end;}must a#1;h=h+1;}proc q{call p;h=h*2;}proc r{call q;h=h+3;}"
+                + "proc s{call r;h=h*2;}call s;h=h+1;call p;");
+        for (int i = 0; i < 30; i++) {
+            b.endDue(x, 0, 2, 0, 1);
+            b.endDue(x, 1, 2, 1, 2);
+            b.endDue(x, 2, 1, 5, 0);
+        }
+        b.endDue(x, 2, 2, 0, -1);
+        b.due("(1*2+3)*2+1+1 by 8", x.got(7), 4);
+        b.close("Terms 2: a RUN that ends in a PROC leaves nothing for the next one");
     }
 
     private static void fuelOneToForty() {

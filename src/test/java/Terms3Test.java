@@ -203,6 +203,10 @@ public final class Terms3Test {
         b.lawDue(x, 5, 0, "0011", 1);
         b.lawDue(x, 5, 1, "1001", 0);
         b.lawDue(x, 5, 0, "1001", 2);
+        b.lawDue(x, 5, 2, "0011", 0);
+        b.lawDue(x, 5, 2, "0011", 1);
+        b.lawDue(x, 5, 3, "0100", 0);
+        b.lawDue(x, 5, 6, "0000", 1);
         b.lawDue(x, 5, 0, "0100", 3);
         b.lawDue(x, 5, 7, "0100", 6);
         b.lawDue(x, 5, 7, "1001", 0);
@@ -298,6 +302,8 @@ public final class Terms3Test {
         b.coverDue(walked("if a>3{b=1;}else{b=2;}if a=0 or a=4{let 0=1;}"), 1, 5);
         b.coverDue(walked("if a=1{b=1;}if a=4{b=1;}if a=6{b=1;let 0=1;}"), 1, 4);
         b.coverDue(walked("let a=7;end;"), 7);
+        b.coverDue(walked("let a>4;"), 5);
+        b.coverDue(walked("let a>4;if a=6{end;}else{end;}"), 5, 6);
         b.close("Terms 3: COVER: ROWS that do not end by 4, STEPS that such ROWS BEGIN");
     }
 
@@ -426,6 +432,12 @@ public final class Terms3Test {
         x = Bench.with("ask c;if c=3{if b=3{if a=3{must 0=1;}}}", 2, 2, 1);
         b.due("a", x.hangs(0, 0, 3), 12 + 48);
         b.due("b", x.hangs(0, 1, 3), 3 + 48);
+        for (int number = 0; number < 8; number++) {
+            x = Bench.with("if a=" + number + "{h=1;}");
+            b.due("one number alone", x.hangs(0, 0, 1), 0);
+            x = Bench.with("if b=3 and a=" + number + "{h=1;}", 3, 2, 0);
+            b.due("one number alone", x.hangs(0, 0, 1), 24);
+        }
         x = Bench.with("if a=15{if b=15{if c=15{h=1;}}}", 4, 3, 0);
         b.due("a", x.hangs(0, 0, 3), 4080);
         b.due("c", x.hangs(0, 2, 3), 255);
