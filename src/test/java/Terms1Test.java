@@ -45,6 +45,7 @@ public final class Terms1Test {
         placesOfFault3();
         placesOfFault4();
         textsAreReadAnew();
+        longTextsOneAfterTheOther();
         b.finish();
     }
 
@@ -600,5 +601,24 @@ public final class Terms1Test {
             b.due("the 'while' of this text", x.rounds(1, 1), 0);
         }
         b.close("Terms 1: what a text may have counts for each text alone");
+    }
+
+    /* Texts as long as they may be, one after the other, and each of them goes to its end. */
+    private static void longTextsOneAfterTheOther() {
+        AllWays x = new AllWays();
+        for (int i = 0; i < 14; i++) {
+            // 147 UNITS in 50 STEPS: h is 10 times 1 + i, what stands ahead counts nothing.
+            String text = Bench.times("b=c+0-d;", 39) + Bench.times("h=h+1+i;".replace("i", "" + i), 10) + "end;";
+            b.due("STEPS", Bench.program(x, 0, text), 50);
+            b.due("end", x.run(0, 0, 1), 0);
+            b.due("its end's STEP", x.got(16), 49);
+            b.due("h", x.got(7), 10 * (1 + i) % 8);
+        }
+        x = new AllWays();
+        for (int i = 0; i < 14; i++) {
+            b.due("TESTS", Bench.claim(x, "0=b+c+d+e" + Bench.times(" and 0=b+c+d+e+f", 18) + " and a=" + i), 20);
+            b.due("the last TEST counts", x.holds(), i % 8);
+        }
+        b.close("Terms 1: long texts, one after the other");
     }
 }
