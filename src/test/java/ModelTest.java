@@ -8,7 +8,7 @@ import java.util.TreeSet;
 /** Random texts (of a written seed), programs and claims: AllWays against Model. */
 public final class ModelTest {
     private static final Bench b = new Bench();
-    private static long seed = 20261119;
+    private static Texts t = new Texts(20261119);
 
     private static final int[][] SIZES = {{2, 1, 0}, {2, 1, 1}, {2, 2, 0}, {2, 2, 1}, {2, 1, 2}, {3, 1, 0}, {3, 1, 1},
         {3, 2, 0}, {4, 1, 0}, {4, 2, 0}, {4, 1, 1}, {5, 1, 0}, {6, 1, 0}, {2, 3, 0}, {2, 3, 1}, {2, 2, 2}};
@@ -18,213 +18,37 @@ public final class ModelTest {
     public static void main(String[] args) {
         int factor = args.length > 0 ? Integer.parseInt(args[0]) : 1;
         if (args.length > 1) {
-            seed = Long.parseLong(args[1]);
+            t = new Texts(Long.parseLong(args[1]));
         }
         faults(3000 * factor);
         for (int i = 0; i < 300 * factor; i++) {
-            walks(i, SIZES[random(SIZES.length)]);
+            walks(i, SIZES[t.random(SIZES.length)]);
         }
         b.close("promises 7 to 15, 20 to 22: random walks");
         for (int i = 0; i < 12 * factor; i++) {
-            walks(i, GREAT_SIZES[random(GREAT_SIZES.length)]);
+            walks(i, GREAT_SIZES[t.random(GREAT_SIZES.length)]);
         }
         b.close("promises 7 to 15, 20 to 22: random walks of many ROWS");
         for (int i = 0; i < 250 * factor; i++) {
-            questions(i, SIZES[random(SIZES.length)]);
+            questions(i, SIZES[t.random(SIZES.length)]);
         }
         b.close("promises 16 to 19, 23 to 26, 32, 33: random programs");
         for (int i = 0; i < 200 * factor; i++) {
-            claims(i, SIZES[random(SIZES.length)]);
+            claims(i, SIZES[t.random(SIZES.length)]);
         }
         b.close("promises 27 to 31: random claims");
         b.finish();
-    }
-
-    private static int random(int below) {
-        seed = seed * 6364136223846793005L + 1442695040888963407L;
-        return (int) ((seed >>> 33) % below);
-    }
-
-    private static boolean chance(int percent) {
-        return random(100) < percent;
-    }
-
-    // ---- random texts ------------------------------------------------------------------------------------------
-
-    private static int namesUsed = 4;
-
-    private static String name() {
-        return String.valueOf(chance(12) ? 'h' : (char) ('a' + random(namesUsed)));
-    }
-
-    private static String number() {
-        return String.valueOf(chance(85) ? random(9) : random(256));
-    }
-
-    private static String unit(int depth) {
-        int kind = random(depth > 0 ? 10 : 7);
-        if (kind < 4) {
-            return name();
-        }
-        if (kind < 7) {
-            return number();
-        }
-        return kind < 9 ? "(" + sum(depth - 1) + ")" : "cell[" + sum(depth - 1) + "]";
-    }
-
-    private static String product(int depth) {
-        StringBuilder s = new StringBuilder(unit(depth));
-        while (chance(18)) {
-            s.append(chance(70) ? "*" : "/").append(unit(depth));
-        }
-        return s.toString();
-    }
-
-    private static String sum(int depth) {
-        StringBuilder s = new StringBuilder(product(depth));
-        while (chance(30)) {
-            s.append(chance(50) ? "+" : "-").append(product(depth));
-        }
-        return s.toString();
-    }
-
-    private static String test(int depth) {
-        return sum(depth) + "<=>#".charAt(random(4)) + sum(depth);
-    }
-
-    private static String cond() {
-        StringBuilder s = new StringBuilder(test(1));
-        while (chance(25)) {
-            s.append(chance(50) ? " and " : " or ").append(test(1));
-        }
-        return s.toString();
-    }
-
-    private static String block(int depth, String procs) {
-        StringBuilder s = new StringBuilder("{");
-        int steps = random(4);
-        for (int i = 0; i < steps; i++) {
-            s.append(step(depth - 1, procs));
-        }
-        return s.append("}").toString();
-    }
-
-    private static String step(int depth, String procs) {
-        int kind = random(100);
-        if (kind < 26 && depth > 0) {
-            return "if " + cond() + block(depth, procs) + (chance(45) ? "else" + block(depth, procs) : "");
-        }
-        if (kind < 40 && depth > 0) {
-            String counter = name();
-            return chance(70) ? "while " + counter + "<" + number() + "{" + counter + "=" + counter + "+1;"
-                    + step(depth - 1, procs) + "}" : "while " + cond() + block(depth, procs);
-        }
-        if (kind < 46) {
-            return "must " + cond() + ";";
-        }
-        if (kind < 50) {
-            return "let " + cond() + ";";
-        }
-        if (kind < 58) {
-            return "ask " + name() + ";";
-        }
-        if (kind < 60) {
-            return "end;";
-        }
-        if (kind < 68 && !procs.isEmpty()) {
-            return "call " + procs.charAt(random(procs.length())) + ";";
-        }
-        if (kind < 74) {
-            return "cell[" + sum(1) + "]=" + sum(1) + ";";
-        }
-        return (chance(20) ? "h" : name()) + "=" + sum(2) + ";";
-    }
-
-    private static String anyProgram() {
-        StringBuilder s = new StringBuilder();
-        String procs = "";
-        String letters = "pqrs";
-        while (chance(30) && !letters.isEmpty()) {
-            char proc = letters.charAt(random(letters.length()));
-            letters = letters.replace(String.valueOf(proc), "");
-            s.append("proc ").append(proc).append(block(3, procs));
-            procs += proc;
-        }
-        int steps = 1 + random(6);
-        for (int i = 0; i < steps; i++) {
-            s.append(step(3, procs));
-        }
-        return s.toString();
-    }
-
-    private static String fineProgram() {
-        namesUsed = 1 + random(5);
-        while (true) {
-            String text = anyProgram();
-            if (text.length() <= 500 && Model.read(text, false).kind == 0) {
-                return text;
-            }
-        }
-    }
-
-    private static String anyClaim() {
-        StringBuilder s = new StringBuilder(test(2));
-        int more = chance(5) ? 19 + random(3) : random(5);
-        for (int i = 0; i < more; i++) {
-            s.append(" and ").append(more > 10 ? name() + "=" + number() : test(2));
-        }
-        return s.toString();
-    }
-
-    private static final String[] PIECES = {"proc", "call", "cell", "if", "else", "while", "must", "let", "ask", "end",
-        "or", "and", "a", "b", "h", "i", "p", "q", "s", "t", "0", "7", "255", "256", "999", "1000", ";", "{", "}", "(",
-        ")", "[", "]", "+", "-", "*", "/", "=", "<", ">", "#", " ", "\n", "?", "A", "\u00e9", "\t", "end;", "a=1;",
-        "((((((", "{{{{", "if a=1{", "cell["};
-
-    private static String mutated(String text) {
-        StringBuilder s = new StringBuilder(text);
-        int times = 1 + random(3);
-        for (int i = 0; i < times; i++) {
-            int at = random(s.length() + 1);
-            switch (random(4)) {
-                case 0:
-                    s.insert(at, PIECES[random(PIECES.length)]);
-                    break;
-                case 1:
-                    s.delete(at, Math.min(s.length(), at + 1 + random(4)));
-                    break;
-                case 2:
-                    s.setLength(at);
-                    break;
-                default:
-                    if (at < s.length()) {
-                        s.setCharAt(at, PIECES[random(PIECES.length)].charAt(0));
-                    }
-            }
-        }
-        return s.toString();
-    }
-
-    private static String longText() {
-        String part = new String[] {"end;", "a=1+b;", "if a=b{}", "a=b+c*2/d-(7);", "x;", "b=b+b+b+b+b;"}[random(6)];
-        StringBuilder s = new StringBuilder();
-        int length = chance(50) ? 480 + random(60) : random(540);
-        while (s.length() < length) {
-            s.append(chance(4) ? anyProgram() : chance(50) ? part : " ");
-        }
-        s.setLength(Math.min(540, chance(50) ? length : s.length()));
-        return s.toString();
     }
 
     private static void faults(int times) {
         AllWays x = new AllWays();
         int calls = 0;
         for (int i = 0; i < times; i++) {
-            namesUsed = 5;
-            boolean isClaim = chance(25);
-            String text = chance(20) ? longText() : isClaim ? anyClaim() : anyProgram();
-            if (chance(70)) {
-                text = mutated(text);
+            t.namesUsed = 5;
+            boolean isClaim = t.chance(25);
+            String text = t.chance(20) ? t.longText() : isClaim ? t.anyClaim() : t.anyProgram();
+            if (t.chance(70)) {
+                text = t.mutated(text);
             }
             if (text.length() > 540) {
                 text = text.substring(0, 540);
@@ -245,7 +69,7 @@ public final class ModelTest {
     // ---- random programs ---------------------------------------------------------------------------------------
 
     private static int fuel() {
-        return chance(60) ? 40 : 1 + random(40);
+        return t.chance(60) ? 40 : 1 + t.random(40);
     }
 
     private static Model model(int[] sizes) {
@@ -267,7 +91,7 @@ public final class ModelTest {
 
     private static void walks(int i, int[] sizes) {
         Model model = model(sizes);
-        String text = fineProgram();
+        String text = t.fineProgram();
         int fuel = fuel();
         String where = "[" + sizes[0] + " " + sizes[1] + " " + sizes[2] + " fuel " + fuel + " " + text + "] ";
         List<Model.Run> runs = model.runs(Model.program(text), fuel);
@@ -275,11 +99,11 @@ public final class ModelTest {
         AllWays x = bench(model, text);
         b.due(where + "walk", x.walk(0, fuel), ways.size());
         for (int n = 0; n < 20; n++) {
-            int way = n < ways.size() && ways.size() < 20 ? n : random(ways.size());
+            int way = n < ways.size() && ways.size() < 20 ? n : t.random(ways.size());
             wayDue(where, x, way, ways.get(way), runs);
         }
         for (int n = 0; n < 20; n++) {
-            int row = random(runs.size());
+            int row = t.random(runs.size());
             int found = x.along(row);
             b.due(where + "along " + row, found >= 0 && found < ways.size() && ways.get(found).contains(row), true);
         }
@@ -289,7 +113,7 @@ public final class ModelTest {
         y.walk(0, fuel);
         int steps = Model.read(text, false).steps;
         for (int n = 0; n < 10; n++) {
-            lawsDue(where, y, model, runs, random(steps + 1));
+            lawsDue(where, y, model, runs, t.random(steps + 1));
         }
         roundsDue(where, bench(model, text), Model.program(text), runs, fuel);
     }
@@ -303,7 +127,7 @@ public final class ModelTest {
         b.due(at + "ROWS", Bench.way(x, way, 3), rows.size());
         b.due(at + "least", Bench.way(x, way, 4), rows.get(0));
         b.due(at + "BEGUN", Bench.way(x, way, 5), run.begun);
-        int d = random(run.decisions + 1);
+        int d = t.random(run.decisions + 1);
         int seen = 0;
         int due = -1;
         for (Model.Event event : run.events) {
@@ -317,8 +141,8 @@ public final class ModelTest {
 
     private static void leastDue(String where, AllWays x, List<Model.Run> runs) {
         for (int n = 0; n < 12; n++) {
-            int end = n < 6 ? n : runs.get(random(runs.size())).end;
-            int step = n < 6 ? -1 : runs.get(random(runs.size())).step;
+            int end = n < 6 ? n : runs.get(t.random(runs.size())).end;
+            int step = n < 6 ? -1 : runs.get(t.random(runs.size())).step;
             int due = -1;
             for (int row = runs.size() - 1; row >= 0; row--) {
                 Model.Run run = runs.get(row);
@@ -339,7 +163,7 @@ public final class ModelTest {
     private static void lawsDue(String where, AllWays x, Model model, List<Model.Run> runs, int step) {
         List<int[]> states = Model.states(runs, step);
         for (int n = 0; n < 3; n++) {
-            int name = random(8);
+            int name = t.random(8);
             TreeSet<Integer> values = new TreeSet<>();
             for (int[] state : states) {
                 values.add(state[name]);
@@ -350,9 +174,9 @@ public final class ModelTest {
             b.due(at + "greatest", x.may(step, name, 2), values.isEmpty() ? -1 : values.last());
         }
         for (int n = 0; n < 8; n++) {
-            int name = random(8);
-            int r = random(4);
-            int other = chance(50) ? random(8) : 100 + random(model.numbers());
+            int name = t.random(8);
+            int r = t.random(4);
+            int other = t.chance(50) ? t.random(8) : 100 + t.random(model.numbers());
             b.due(where + "step " + step + " law " + name + " " + r + " " + other, x.law(step, name, r, other),
                     lawOf(states, name, r, other));
         }
@@ -368,7 +192,7 @@ public final class ModelTest {
         }
         b.due(where + "laws " + step, x.laws(step), states.isEmpty() ? -1 : laws.size());
         for (int k = 0; k < 5 && !states.isEmpty(); k++) {
-            int at = random(laws.size() + 1);
+            int at = t.random(laws.size() + 1);
             b.due(where + "lawAt " + at, x.lawAt(at), at < laws.size() ? laws.get(at) : -1);
         }
     }
@@ -402,8 +226,8 @@ public final class ModelTest {
 
     private static void questions(int i, int[] sizes) {
         Model model = model(sizes);
-        String text = fineProgram();
-        String other = chance(60) ? alikeText(text) : fineProgram();
+        String text = t.fineProgram();
+        String other = t.chance(60) ? alikeText(text) : t.fineProgram();
         int fuel = fuel();
         String where = "[" + sizes[0] + " " + sizes[1] + " " + sizes[2] + " fuel " + fuel + " " + text + " / " + other
                 + "] ";
@@ -433,18 +257,18 @@ public final class ModelTest {
         b.due(where + "mend", x.mend(0, fuel), mend == null ? -1 : mend[0]);
         b.due(where + "mended", x.mended(), mend == null ? -1 : mend[1]);
         for (int n = 0; n < 10; n++) {
-            runDue(where, x, runs, random(model.rows()), fuel);
+            runDue(where, x, runs, t.random(model.rows()), fuel);
         }
     }
 
     /** A text that is like another one but for a number or so, if that is one without FAULTS. */
     private static String alikeText(String text) {
         StringBuilder s = new StringBuilder(text);
-        int at = random(s.length());
+        int at = t.random(s.length());
         for (int i = 0; i < s.length(); i++) {
             int there = (at + i) % s.length();
             if (Character.isDigit(s.charAt(there))) {
-                s.setCharAt(there, (char) ('0' + random(10)));
+                s.setCharAt(there, (char) ('0' + t.random(10)));
                 break;
             }
         }
@@ -490,8 +314,8 @@ public final class ModelTest {
 
     private static void claims(int i, int[] sizes) {
         Model model = model(sizes);
-        namesUsed = 1 + random(4);
-        String text = anyClaim();
+        t.namesUsed = 1 + t.random(4);
+        String text = t.anyClaim();
         if (Model.read(text, true).kind != 0) {
             return;
         }
@@ -537,14 +361,14 @@ public final class ModelTest {
     private static void checkDue(String where, AllWays x, Model model, Model.Tree claim, Set<Integer> all,
             List<Integer> proof) {
         List<Integer> bytes = new ArrayList<>();
-        if (proof != null && chance(70)) {
+        if (proof != null && t.chance(70)) {
             bytes.addAll(proof);
-            int at = random(bytes.size());
-            int kind = random(4);
+            int at = t.random(bytes.size());
+            int kind = t.random(4);
             if (kind == 0) {
-                bytes.set(at, chance(50) ? random(8) : 100 + random(6));
+                bytes.set(at, t.chance(50) ? t.random(8) : 100 + t.random(6));
             } else if (kind == 1) {
-                bytes.add(at, random(6));
+                bytes.add(at, t.random(6));
             } else if (kind == 2) {
                 bytes.remove(at);
             }
@@ -558,15 +382,15 @@ public final class ModelTest {
     }
 
     private static void randomProof(List<Integer> bytes, Model model, Model.Tree claim, Set<Integer> parted) {
-        int bit = random(model.rowBits());
-        if (chance(60) && !parted.contains(bit)) {
+        int bit = t.random(model.rowBits());
+        if (t.chance(60) && !parted.contains(bit)) {
             bytes.add(bit);
             parted.add(bit);
             randomProof(bytes, model, claim, parted);
             randomProof(bytes, model, claim, parted);
             parted.remove(bit);
         } else {
-            bytes.add(100 + random(claim.tests.size()));
+            bytes.add(100 + t.random(claim.tests.size()));
         }
     }
 }
